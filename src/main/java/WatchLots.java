@@ -5,7 +5,7 @@ public final class WatchLots {
     public static final int NONE = -1;
 
     private static final int TAPE = 700;
-    private static final int FEED = 5;
+    private static final int FEED = 20;
     private static final int STREETS = 8;
     private static final int PATHS = 14;
     private static final int ROUND = 8;
@@ -15,6 +15,7 @@ public final class WatchLots {
     private static final int HOURS = 6;
     private static final int THICK = 7;
     private static final int MOST_COINS = 999;
+    private static final int RESERVE = 5;
     private static final int MOST_RESERVE = 99;
     private static final int LAST_NIGHT = 999;
     private static final int BRIBE = 5;
@@ -30,12 +31,9 @@ public final class WatchLots {
     private static final int REFUSED_ACT = 1;
     private static final int REFUSED_TOLD = 2;
 
-    private final int[] tape = new int[TAPE];
-    private int taped = 0;
-    private int faultPlace = NONE;
+    private final Reader reader = new Reader();
     private Ward plan = new Ward();
-    private Ward draft = new Ward();
-    private final Reader reader = new Reader(tape, draft);
+    private int faultPlace = NONE;
     private final Book book = new Book();
     private final Book kept = new Book();
     private boolean isKept = false;
@@ -48,36 +46,32 @@ public final class WatchLots {
     private final int[] otherLosses = new int[4];
 
     public WatchLots() {
-        book.begin(plan);
     }
 
     public int feed(int a, int b, int c, int d, int e) {
-        if (taped > TAPE - 4 * FEED) {
+        if (reader.taped > TAPE - FEED) {
             return NONE;
         }
-        putOnTape(a);
-        putOnTape(b);
-        putOnTape(c);
-        putOnTape(d);
-        putOnTape(e);
-        return taped;
+        reader.append(a);
+        reader.append(b);
+        reader.append(c);
+        reader.append(d);
+        reader.append(e);
+        return reader.taped;
     }
 
     public int ward(int n) throws IllegalArgumentException {
-        if (n < 0 || n > taped) {
+        if (n < 0 || n > reader.taped) {
             throw new IllegalArgumentException("the tape has not so many bytes");
         }
-        int found = reader.read(n, draft);
-        taped = 0;
+        int found = reader.read(n);
         if (found != 0) {
-            faultPlace = reader.place();
+            faultPlace = reader.start;
             book.refuse(REFUSED_TEXT);
             return found;
         }
         faultPlace = NONE;
-        Ward old = plan;
-        plan = draft;
-        draft = old;
+        plan = reader.exchange(plan);
         book.begin(plan);
         isKept = false;
         return 0;
@@ -103,7 +97,7 @@ public final class WatchLots {
             case 9: return town.coinsOfAll();
             case 10: return book.diary.count;
             case 11: return book.told.count;
-            case 12: return taped;
+            case 12: return reader.taped;
             default: return at(book.status, what - 13);
         }
     }
@@ -281,8 +275,9 @@ public final class WatchLots {
 
     public int safe(int person) throws NoSuchElementException {
         needPerson(person);
+        int length = at(plan.lengths, person);
         int places = 0;
-        for (int place = 0; place < at(plan.lengths, person); place++) {
+        for (int place = 0; place < length; place++) {
             if (isSafe(person, place, streetIn(at(book.town.walks, person), place))) {
                 places |= 1 << place;
             }
@@ -292,8 +287,9 @@ public final class WatchLots {
 
     public int toHide(int person) throws NoSuchElementException {
         needPerson(person);
+        int length = at(plan.lengths, person);
         int many = 0;
-        for (int place = 0; place < at(plan.lengths, person); place++) {
+        for (int place = 0; place < length; place++) {
             if (!isSafe(person, place, streetIn(at(book.town.walks, person), place))) {
                 if (!canHide(person, place)) {
                     return NONE;
@@ -528,13 +524,6 @@ public final class WatchLots {
         }
     }
 
-    private void putOnTape(int number) {
-        for (int shift = 24; shift >= 0; shift -= 8) {
-            put(tape, taped, (number >> shift) & 255);
-            taped++;
-        }
-    }
-
     private void goAhead(int nights) {
         later.copy(book.town);
         for (int i = 0; i < nights; i++) {
@@ -657,7 +646,7 @@ public final class WatchLots {
             people = 0;
             bishops = 0;
             fogs = 1;
-            reserve = 5;
+            reserve = RESERVE;
             for (int street = 0; street < near.length; street++) {
                 near[street] = 0;
             }
@@ -840,7 +829,7 @@ public final class WatchLots {
         }
     }
 
-    /** Reads a TEXT into a Ward, from the left, up to the first FAULT. */
+    /** The tape; it reads a TEXT from it into a draft, from the left, up to the first FAULT. */
     static final class Reader {
         private static final int END = 0;
         private static final int WORD = 1;
@@ -860,10 +849,11 @@ public final class WatchLots {
         private static final int NOTS = 6;
         private static final int DIGITS = 4;
 
-        private final int[] text;
-        private Ward plan;
+        private final int[] tape = new int[TAPE];
+        int taped = 0;
+        private Ward draft = new Ward();
         private int end = 0;
-        private int start = 0;
+        int start = 0;
         private int next = 0;
         private int kind = END;
         private int value = 0;
@@ -872,20 +862,29 @@ public final class WatchLots {
         private boolean hasStreet = false;
         private final int[] row = new int[ROUND];
 
-        Reader(int[] tape, Ward into) {
-            text = tape;
-            plan = into;
+        void append(int number) {
+            for (int shift = 24; shift >= 0; shift -= 8) {
+                put(tape, taped, (number >> shift) & 255);
+                taped++;
+            }
         }
 
-        /** The FAULT of the first bytes, or 0; the Ward is of use only without one. */
-        int read(int many, Ward into) {
+        /** The draft, for a Ward that is of no use any more. */
+        Ward exchange(Ward old) {
+            Ward read = draft;
+            draft = old;
+            return read;
+        }
+
+        /** The FAULT of the first bytes, at start then, or 0; the tape is empty behind it. */
+        int read(int many) {
+            taped = 0;
             end = many;
             next = 0;
             found = 0;
             linesTold = 0;
             hasStreet = false;
-            plan = into;
-            plan.clear();
+            draft.clear();
             advance();
             for (int i = 0; i <= TAPE && kind != END; i++) {
                 if (!line()) {
@@ -895,13 +894,9 @@ public final class WatchLots {
             return 0;
         }
 
-        int place() {
-            return start;
-        }
-
         private void advance() {
             start = next;
-            while (start < end && isBlank(at(text, start))) {
+            while (start < end && isBlank(at(tape, start))) {
                 start++;
             }
             next = start;
@@ -909,10 +904,10 @@ public final class WatchLots {
                 kind = END;
                 return;
             }
-            int sign = at(text, start);
+            int sign = at(tape, start);
             if (isLetter(sign)) {
                 kind = WORD;
-                while (next < end && isLetter(at(text, next))) {
+                while (next < end && isLetter(at(tape, next))) {
                     next++;
                 }
             } else if (isDigit(sign)) {
@@ -926,9 +921,9 @@ public final class WatchLots {
 
         private void readDigits() {
             value = 0;
-            while (next < end && isDigit(at(text, next))) {
+            while (next < end && isDigit(at(tape, next))) {
                 if (next - start < DIGITS) {
-                    value = 10 * value + at(text, next) - '0';
+                    value = 10 * value + at(tape, next) - '0';
                 }
                 next++;
             }
@@ -955,7 +950,7 @@ public final class WatchLots {
                 return false;
             }
             for (int i = 0; i < word.length(); i++) {
-                if (at(text, start + i) != word.charAt(i)) {
+                if (at(tape, start + i) != word.charAt(i)) {
                     return false;
                 }
             }
@@ -1001,7 +996,7 @@ public final class WatchLots {
                 return false;
             }
             hasStreet = true;
-            return value < plan.streets || refuse(NOT_THERE);
+            return value < draft.streets || refuse(NOT_THERE);
         }
 
         /** One or more STREETS, or numbers of FOG, into the row: how many, or NONE behind a FAULT. */
@@ -1054,13 +1049,13 @@ public final class WatchLots {
             if (!once(STREETS_LINE) || !number(2, STREETS)) {
                 return false;
             }
-            plan.streets = value;
+            draft.streets = value;
             advance();
             return sign(';');
         }
 
         private boolean pathLine() {
-            if (plan.paths >= PATHS) {
+            if (draft.paths >= PATHS) {
                 return refuse(TOO_MUCH);
             }
             advance();
@@ -1072,10 +1067,10 @@ public final class WatchLots {
             if (!street()) {
                 return false;
             }
-            if (value == one || ((at(plan.near, one) >> value) & 1) != 0) {
+            if (value == one || ((at(draft.near, one) >> value) & 1) != 0) {
                 return refuse(NOT_NOW);
             }
-            plan.join(one, value);
+            draft.join(one, value);
             advance();
             return sign(';');
         }
@@ -1088,13 +1083,13 @@ public final class WatchLots {
             if (many == NONE) {
                 return false;
             }
-            plan.rounds = many;
-            copyRow(row, plan.round);
+            draft.rounds = many;
+            copyRow(row, draft.round);
             return sign(';');
         }
 
         private boolean personLine(boolean isBishop) {
-            if (plan.people >= PEOPLE) {
+            if (draft.people >= PEOPLE) {
                 return refuse(TOO_MUCH);
             }
             advance();
@@ -1107,7 +1102,7 @@ public final class WatchLots {
             if (length == NONE) {
                 return false;
             }
-            plan.addPerson(has, isBishop, row, length);
+            draft.addPerson(has, isBishop, row, length);
             return sign(';');
         }
 
@@ -1119,8 +1114,8 @@ public final class WatchLots {
             if (many == NONE) {
                 return false;
             }
-            plan.fogs = many;
-            copyRow(row, plan.fog);
+            draft.fogs = many;
+            copyRow(row, draft.fog);
             return sign(';');
         }
 
@@ -1128,7 +1123,7 @@ public final class WatchLots {
             if (!once(RESERVE_LINE) || !number(0, MOST_RESERVE)) {
                 return false;
             }
-            plan.reserve = value;
+            draft.reserve = value;
             advance();
             return sign(';');
         }
@@ -1149,7 +1144,7 @@ public final class WatchLots {
                 if (!both(depth)) {
                     return false;
                 }
-                plan.worth.add(Worth.OR);
+                draft.worth.add(Worth.OR);
             }
             return true;
         }
@@ -1163,7 +1158,7 @@ public final class WatchLots {
                 if (!denied(depth)) {
                     return false;
                 }
-                plan.worth.add(Worth.AND);
+                draft.worth.add(Worth.AND);
             }
             return true;
         }
@@ -1181,7 +1176,7 @@ public final class WatchLots {
                 return false;
             }
             for (int i = 0; i < nots; i++) {
-                plan.worth.add(Worth.NOT);
+                draft.worth.add(Worth.NOT);
             }
             return true;
         }
@@ -1198,7 +1193,7 @@ public final class WatchLots {
             if (!sum(depth)) {
                 return false;
             }
-            plan.worth.add(step);
+            draft.worth.add(step);
             return true;
         }
 
@@ -1212,7 +1207,7 @@ public final class WatchLots {
                 if (!product(depth)) {
                     return false;
                 }
-                plan.worth.add(step);
+                draft.worth.add(step);
             }
             return true;
         }
@@ -1227,7 +1222,7 @@ public final class WatchLots {
                 if (!part(depth)) {
                     return false;
                 }
-                plan.worth.add(step);
+                draft.worth.add(step);
             }
             return true;
         }
@@ -1242,12 +1237,12 @@ public final class WatchLots {
                 if (index == NONE) {
                     return refuse(NOT_THERE);
                 }
-                plan.worth.addValue(index);
+                draft.worth.addValue(index);
             } else {
                 if (!number(0, 9999)) {
                     return false;
                 }
-                plan.worth.add(value);
+                draft.worth.add(value);
             }
             advance();
             return true;
@@ -1286,7 +1281,7 @@ public final class WatchLots {
         int night = 0;
         int dark = 0;
         int bribing = 0;
-        int reserve = 0;
+        int reserve = RESERVE;
         final int[] coins = new int[PEOPLE];
         final int[] knows = new int[PEOPLE];
         final int[] walks = new int[PEOPLE];
@@ -1701,7 +1696,8 @@ public final class WatchLots {
         private void tryWalksOf(int who, Ward ward, Town town, Told told) {
             int path = at(town.walks, who);
             int was = at(nightsSeen, who);
-            for (int place = 0; place < at(ward.lengths, who); place++) {
+            int length = at(ward.lengths, who);
+            for (int place = 0; place < length; place++) {
                 for (int street = 0; street < ward.streets; street++) {
                     if (street != streetIn(path, place)) {
                         put(nightsSeen, who, nightsOf(ward, town, who, walkWith(path, place, street)));
