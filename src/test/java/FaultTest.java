@@ -52,6 +52,7 @@ final class FaultTest {
         fault(1, "streets #four;");
         fault(1, "#streetss 4;");
         fault(1, "#street 4;");
+        fault(1, "#math 0 1;");
         fault(1, "path 0#;");
         fault(1, "path 0 1 #2;");
         fault(1, "path 0 1#");
@@ -121,6 +122,9 @@ final class FaultTest {
         fault(3, "streets 8; round 7 #8;");
         fault(3, "worth #x;");
         fault(3, "worth #streets;");
+        fault(3, "worth #z;");
+        fault(3, "worth #xwn;");
+        fault(3, "worth #owm;");
         fault(3, "worth #or;");
         fault(3, "worth #and 1;");
         fault(3, "worth 1 or #or 2;");

@@ -44,6 +44,10 @@ final class PromiseTest {
         test.games();
         test.yearsBySeed();
         test.images();
+        test.wardBehindWard();
+        test.farNights();
+        test.undoneRows();
+        test.sevenPeople();
         test.checks.end();
     }
 
@@ -59,6 +63,9 @@ final class PromiseTest {
             is("new count " + i, want[i], () -> x.count(what));
         }
         is("new fault", -1, x::fault);
+        is("new restore", 0, () -> x.restore() ? 1 : 0);
+        is("new undo", -1, x::undo);
+        is("new reserve", 5, () -> x.reserve(7));
         is("new most", -1, () -> x.most(0));
         is("new richest", -1, () -> x.most(1));
         is("new given", 0, () -> x.given(-1));
@@ -166,6 +173,9 @@ final class PromiseTest {
         is("watch 1 5", 1, () -> x.watch(1, 5));
         is("watch 2 0", 2, () -> x.watch(2, 0));
         is("watch 40 5", 3, () -> x.watch(40, 5));
+        WatchLots five = Checks.of("round 0 1 2 3 3;");
+        is("watch 2 0 of five places", 1, () -> five.watch(2, 0));
+        is("watch 3 4 of five places", 1, () -> five.watch(3, 4));
         x.nights(1);
         is("lantern next", 4, () -> x.lantern(0));
         is("watch next", 2, () -> x.watch(1, 0));
@@ -373,6 +383,7 @@ final class PromiseTest {
             checks.illegal("spends " + bad, () -> x.spends(0, bad));
             checks.noSuch("then person ahead " + bad, () -> x.then(-1, bad, 0));
             checks.noSuch("then what ahead " + bad, () -> x.then(0, bad, -1));
+            checks.noSuch("then what 2 ahead " + bad, () -> x.then(0, bad, 2));
             checks.noSuch("spends person ahead " + bad, () -> x.spends(3, bad));
         }
         checks.noSuch("first 3", () -> x.first(3));
@@ -467,6 +478,8 @@ final class PromiseTest {
         is("knows", 12, () -> knows.given(-1));
         WatchLots plain = Checks.of("person 0 0; person 90 1; reserve 3;");
         is("without WORTH", 33, () -> plain.given(-1));
+        WatchLots own = Checks.of("round 1 1 0 1 1 1; person 90 0;");
+        is("one's own without WORTH", 25, () -> own.given(-1));
         plain.nights(1);
         is("9 less, if KNOWN", 24, () -> plain.given(-1));
     }
@@ -512,6 +525,8 @@ final class PromiseTest {
         is("without 1", 2, () -> x.haunt(1));
         WatchLots y = Checks.of("round 1; person 9 0;");
         is("none", -1, () -> y.haunt(40));
+        WatchLots z = Checks.of("round 1 1 0 1 1 1 1; person 9 2 2 0;");
+        is("one PERSON in one HOUR", 0, () -> z.haunt(1));
     }
 
     private void ways() {
@@ -563,6 +578,8 @@ final class PromiseTest {
         checks.noSuch("safe 5", () -> x.safe(5));
         checks.noSuch("toHide -1", () -> x.toHide(-1));
         is("safe 4", 57, () -> x.safe(4));
+        WatchLots first = Checks.of("streets 2; round 1; person 9 1;");
+        is("in STREET 0 alone", 1, () -> first.toHide(0));
         x.nights(1);
         is("safe in the NIGHT that comes", 62, () -> x.safe(4));
     }
@@ -583,6 +600,10 @@ final class PromiseTest {
         WatchLots all = Checks.of("bishop 998 0; bishop 999 1; worth coins;");
         is("by 999", 999, () -> all.toWin(0, 0));
         is("never", -1, () -> all.toWin(0, 1));
+        WatchLots hidden = Checks.of("person 30 0; person 40 0;");
+        is("seen", 31, () -> hidden.toWin(1, 0));
+        hidden.bribe(0);
+        is("no LOT of who is BRIBING", -1, () -> hidden.toWin(1, 0));
         checks.noSuch("toWin 2", () -> all.toWin(2, 0));
         checks.noSuch("toWin of 2", () -> all.toWin(0, 2));
     }
@@ -606,6 +627,13 @@ final class PromiseTest {
         is("crosswise", 60, () -> cross.given(-1));
         is("0 to 1", 1, () -> cross.given(0));
         is("1 to 0", 0, () -> cross.given(1));
+        WatchLots unseen = Checks.of("person 90 1; person 80 0;");
+        is("0 isn't SEEN", -1, () -> unseen.given(0));
+        is("and has 1, with 50 of one's own", 50, () -> unseen.given(-1));
+        unseen.wander(0, 0, 0);
+        is("each one's own", 100, () -> unseen.given(-1));
+        WatchLots alike = Checks.of("person 90 1; person 80 0; worth 5;");
+        is("0 has the LOT of 1", 0, () -> alike.given(1));
         WatchLots reserve = Checks.of("person 4 0; reserve 99;");
         is("without RESERVE", 4, () -> reserve.given(-1));
         checks.noSuch("given -2", () -> reserve.given(-2));
@@ -696,6 +724,40 @@ final class PromiseTest {
         is("100 and so on", 100, () -> x.otherwise(1));
         x.nights(1);
         is("the k-th NIGHT from now on", 1, () -> x.otherwise(2));
+        x.forget();
+        x.tell(1, 11, true);
+        x.tell(1, 12, false);
+        is("SEEN in NIGHT 11, not in NIGHT 12", 1, () -> x.otherwise(2));
+        WatchLots places = Checks.of("streets 2; person 9 1 1 1 1;");
+        places.tell(0, 12, true);
+        is("not without", 0, () -> places.otherwise(2));
+        is("four places", 4, () -> places.otherwise(0));
+        places.wander(0, 0, 0);
+        is("as it is", 1, () -> places.otherwise(2));
+        places.forget();
+        places.tell(0, 1, false);
+        is("place 0 back", 1, () -> places.otherwise(0));
+        is("is 1", 1, () -> places.otherwise(1));
+        WatchLots later = Checks.of("round 1 1 0 1 1 1; person 9 2 2 2 2 2 2;");
+        later.tell(0, 1, true);
+        is("place 0 in 1 or place 2 in 0", 6, () -> later.otherwise(0));
+        is("place 0 in 1 is the first", 1, () -> later.otherwise(1));
+        WatchLots third = Checks.of("streets 2; round 1 1 0 1 1 1; person 9 0 0 1 0 0 0;");
+        third.tell(0, 1, false);
+        is("as it is: no HOUR", 1, () -> third.otherwise(2));
+        is("no place may be otherwise", 0, () -> third.otherwise(0));
+        third.forget();
+        third.tell(0, 1, true);
+        third.tell(0, 2, true);
+        is("each may", 6, () -> third.otherwise(0));
+        third.wander(0, 0, 1);
+        third.forget();
+        third.tell(0, 1, false);
+        is("the one alone", 1, () -> third.otherwise(0));
+        is("place 0 to 0", 0, () -> third.otherwise(1));
+        third.wander(0, 0, 0);
+        third.wander(0, 3, 1);
+        is("place 3 to 0", 30, () -> third.otherwise(1));
         WatchLots bribing = Checks.of("person 9 1; person 9 0;");
         bribing.bribe(0);
         bribing.tell(0, 1, true);
@@ -734,7 +796,7 @@ final class PromiseTest {
         is("no first", -1, () -> restless.game(0, 1, 1));
         checks.illegal("both are one", () -> x.game(1, 1, 0));
         checks.noSuch("what ahead of it", () -> x.game(1, 1, 2));
-        checks.noSuch("game 3", () -> x.game(3, 3, 0));
+        checks.noSuch("game 3", () -> x.game(3, 0, 0));
         checks.noSuch("game with -1", () -> x.game(0, -1, 0));
         is("nothing has changed", 1, () -> x.count(8));
     }
@@ -815,5 +877,97 @@ final class PromiseTest {
         x.nights(1);
         x.restore();
         is("another image in its place", 0, () -> x.count(10));
+    }
+
+    private void wardBehindWard() {
+        String all = "streets 5; path 0 4; round 1 2 4; person 9 4 1; bishop 8 2; fog 3 4; reserve 7; worth 1;";
+        WatchLots x = Checks.of(all);
+        is("once more", 0, () -> Checks.tell(x, all));
+        is("PEOPLE", 2, () -> x.count(2));
+        is("PATHS", 1, () -> x.count(1));
+        is("a fault", 5, () -> Checks.tell(x, "round 0; person 5 0; reserve 3; fog 1; fog 2;"));
+        is("PEOPLE stay", 2, () -> x.count(2));
+        is("THE ROUND stays", 3, () -> x.count(3));
+        is("FOG stays", 3, () -> x.count(5));
+        is("RESERVE stays", 7, () -> x.count(6));
+        is("STREETS stay", 5, () -> x.count(0));
+        is("paths stay", 1, () -> x.paths(4));
+        is("WORTH stays, and a bishop bids 8", 9, () -> x.given(-1));
+        is("watch stays", 4, () -> x.watch(1, 2));
+        is("a bishop stays", 1, () -> x.person(1, 3));
+        is("nothing", 0, () -> x.ward(0));
+        is("STREETS", 4, () -> x.count(0));
+        is("no PATH", 0, () -> x.paths(0));
+        is("THE ROUND is 0 alone", 63, () -> x.lantern(0));
+        is("no FOG", 0, () -> x.count(5));
+        is("PEOPLE anew", 0, () -> Checks.tell(x, "person 90 0; person 90 0;"));
+        is("no WORTH", 100, () -> x.given(-1));
+        is("no bishop", 0, () -> x.person(1, 3));
+        is("nobody KNOWN", 0, () -> x.person(0, 2));
+    }
+
+    /** 6 by k MOD 7 is 3 and k MOD 8 is 7 in NIGHT 39 and then in NIGHT 95. */
+    private void farNights() {
+        WatchLots x = Checks.of("round 0 0 0 1 0 0 0; fog 7 8 9 7 8 9 7 6; person 9 1 2 2 2 2 2;");
+        is("first in the 40th", 40, () -> x.first(0));
+        is("no secret", 0, x::secret);
+        is("lots 40", 1, () -> x.lots(40));
+        is("haunt 40", 1, () -> x.haunt(40));
+        is("haunt 39", -1, () -> x.haunt(39));
+        is("sold 40", 0, () -> x.sold(0, 40, 0));
+        x.nights(20);
+        x.nights(20);
+        is("not again in 40", -1, () -> x.first(0));
+        is("secret", 1, x::secret);
+        is("its LOT", 0, () -> x.count(7));
+        is("for RESERVE", 4, () -> x.person(0, 0));
+    }
+
+    private void undoneRows() {
+        WatchLots x = Checks.of("person 0 0; person 90 0; person 50 1 2; reserve 60; worth 70;");
+        x.nights(1);
+        is("1 KNOWS 0", 1, () -> x.person(1, 2));
+        is("LOT 1 in the DARK", 1, () -> x.count(7));
+        x.wander(2, 1, 3);
+        x.nights(1);
+        is("more in the DARK", 3, () -> x.count(7));
+        x.wander(2, 0, 0);
+        x.image();
+        is("undo wander", 3, x::undo);
+        is("walk of 2", 1, () -> x.walk(2, 0));
+        is("undo nights", 2, x::undo);
+        is("1 in the DARK", 1, () -> x.count(7));
+        is("1 KNOWS 0 still", 1, () -> x.person(1, 2));
+        is("undo wander", 1, x::undo);
+        is("walk of 2", 2, () -> x.walk(2, 1));
+        is("undo nights", 0, x::undo);
+        is("none in the DARK", 0, () -> x.count(7));
+        is("1 KNOWS nobody", 0, () -> x.person(1, 2));
+        x.tell(0, 1, false);
+        is("restore", 1, () -> x.restore() ? 1 : 0);
+        is("nothing is TOLD", 1, () -> x.otherwise(2));
+        is("its ACTS are back", 3, x::undo);
+        is("walk of 2 by them", 1, () -> x.walk(2, 0));
+        x.tell(0, 2, false);
+        x.image();
+        x.forget();
+        x.tell(2, 1, true);
+        x.restore();
+        is("TOLD is back", 1, () -> x.count(11));
+        is("as it was", 3, () -> x.otherwise(0));
+    }
+
+    private void sevenPeople() {
+        WatchLots x = Checks.of("streets 2;" + "person 90 0;".repeat(7) + "worth 10 + own;");
+        is("look: each may be away", 7, () -> x.look(1));
+        is("in all NIGHTS", 1, () -> x.look(0));
+        is("all LOTS", 127, () -> x.lots(1));
+        is("given", 77, () -> x.given(-1));
+        is("the last one's", 6, () -> x.given(6));
+        is("sold", 6, () -> x.sold(6, 1, 0));
+        is("COINS of all", 630, () -> x.count(9));
+        is("unknown", 63, () -> x.unknown(6));
+        is("bribe", 85, () -> x.bribe(6));
+        is("bribing", 64, () -> x.count(8));
     }
 }
