@@ -68,10 +68,12 @@ final class LanguageTest {
         checks.due("public methods", 41, shown.size());
         for (Method m : WatchLots.class.getDeclaredMethods()) {
             int how = m.getModifiers();
-            checks.due(m + " public or private", true, Modifier.isPublic(how) || Modifier.isPrivate(how) || m.isSynthetic());
+            checks.due(m + " public or private", true,
+                    Modifier.isPublic(how) || Modifier.isPrivate(how) || m.isSynthetic());
         }
         for (Class<?> c : WatchLots.class.getDeclaredClasses()) {
-            checks.due(c + " static", true, Modifier.isStatic(c.getModifiers()) && !Modifier.isPublic(c.getModifiers()));
+            checks.due(c + " static", true,
+                    Modifier.isStatic(c.getModifiers()) && !Modifier.isPublic(c.getModifiers()));
             for (Method m : c.getDeclaredMethods()) {
                 checks.due(m + " has a name of its own", false, shown.contains(m.getName()));
             }

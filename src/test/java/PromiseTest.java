@@ -48,6 +48,8 @@ final class PromiseTest {
         test.farNights();
         test.undoneRows();
         test.sevenPeople();
+        test.lookFar();
+        test.imageOfRows();
         test.checks.end();
     }
 
@@ -333,6 +335,15 @@ final class PromiseTest {
         }
         is("the latest ones were kept", 3, () -> x.person(0, 0));
         is("none", -1, x::undo);
+        for (int i = 1; i <= 42; i++) {
+            x.nights(1);
+        }
+        for (int i = 41; i >= 2; i--) {
+            x.undo();
+            int night = i;
+            is("NIGHT behind undo", night, () -> x.count(4));
+        }
+        is("none once more", -1, x::undo);
     }
 
     private void forecasts() {
@@ -431,7 +442,8 @@ final class PromiseTest {
 
     private void rule(String expr, int want) {
         // The one bidder is 1 (0 has nothing); RESERVE 1, so that the BUYER tells whether the bid is 1 or more.
-        WatchLots x = Checks.of("streets 3; person 0 2 1; person 900 0; round 1 1 2 2; reserve 0; worth (" + expr + ");");
+        WatchLots x = Checks.of("streets 3; person 0 2 1; person 900 0; round 1 1 2 2; reserve 0;"
+                + "worth (" + expr + ");");
         is("worth " + expr, want, () -> x.given(-1));
     }
 
@@ -969,5 +981,57 @@ final class PromiseTest {
         is("unknown", 63, () -> x.unknown(6));
         is("bribe", 85, () -> x.bribe(6));
         is("bribing", 64, () -> x.count(8));
+    }
+
+    private void lookFar() {
+        // NIGHTS 4 and 12 alone are without thick FOG; the watch is in STREET 1 in HOUR 0 of the 12th, else in 0.
+        WatchLots x = Checks.of("streets 3; round 0 0 0 1 0 0 0; fog 9 9 9 0 9 9 9 9;"
+                + "person 90 1 2 2 2 2 2;".repeat(7));
+        is("of like ones the first", 4, () -> x.look(0));
+        for (int who = 0; who < 7; who++) {
+            x.tell(who, 4, false);
+        }
+        is("the 12th", 12, () -> x.look(0));
+        is("all, or without one", 8, () -> x.look(1));
+        // NIGHTS 1 and 9; STREET 3 is of the first one's round alone.
+        WatchLots y = Checks.of("round 0 0 0 0 0 3 0; fog 0 9 9 9 9 9 9 9; person 90 2;");
+        y.tell(0, 9, false);
+        is("the first", 1, () -> y.look(0));
+        is("SEEN or not", 2, () -> y.look(1));
+        is("to 1 or to 3", 2, () -> y.otherwise(0));
+    }
+
+    private void imageOfRows() {
+        WatchLots x = Checks.of("fog 0 9; person 9 0;");
+        x.nights(3);
+        x.earn(0, 50);
+        x.tell(0, 2, true);
+        is("so it is", 1, () -> x.otherwise(2));
+        x.image();
+        x.undo();
+        x.undo();
+        x.reserve(90);
+        x.wander(0, 0, 3);
+        x.forget();
+        x.tell(0, 2, false);
+        x.tell(0, 1, true);
+        x.restore();
+        is("ACTS", 2, () -> x.count(10));
+        is("as it was TOLD", 1, () -> x.otherwise(2));
+        is("undo earn", 1, x::undo);
+        is("the NIGHT ahead of it", 3, () -> x.count(4));
+        is("COINS ahead of it", 4, () -> x.person(0, 0));
+        is("RESERVE ahead of it", 5, () -> x.count(6));
+        is("undo nights", 0, x::undo);
+        is("the first NIGHT", 0, () -> x.count(4));
+        is("the WALK", 0, () -> x.walk(0, 0));
+        is("its COINS", 9, () -> x.person(0, 0));
+        x.forget();
+        x.tell(0, 1, true);
+        x.image();
+        x.forget();
+        x.tell(0, 2, true);
+        x.restore();
+        is("of the first NIGHT", 1, () -> x.otherwise(2));
     }
 }
