@@ -64,6 +64,25 @@ final class Checks {
         return lots;
     }
 
+    /** The FAULT and its place; the # shows the place and isn't of the text. */
+    void fault(int due, String marked) {
+        int place = marked.indexOf('#');
+        String text = marked.substring(0, place) + marked.substring(place + 1);
+        WatchLots lots = new WatchLots();
+        int got = tell(lots, text);
+        due(marked, due + " at " + place, got + " at " + lots.fault());
+        is("count(13) behind " + marked, 1, () -> lots.count(13));
+        is("count(12) behind " + marked, 0, () -> lots.count(12));
+    }
+
+    /** The text is a WARD. */
+    void good(String text) {
+        WatchLots lots = new WatchLots();
+        int got = tell(lots, text);
+        due(text, "0 at -1", got + " at " + lots.fault());
+        is("count(13) behind " + text, 0, () -> lots.count(13));
+    }
+
     /** Prints the count; the exit code tells whether all is as due. */
     void end() {
         System.out.println(passed + " passed, " + failed + " failed");

@@ -18,22 +18,12 @@ final class FaultTest {
         test.checks.end();
     }
 
-    /** The # shows the place and isn't of the text. */
     private void fault(int due, String marked) {
-        int place = marked.indexOf('#');
-        String text = marked.substring(0, place) + marked.substring(place + 1);
-        WatchLots lots = new WatchLots();
-        int got = Checks.tell(lots, text);
-        checks.due(marked, due + " at " + place, got + " at " + lots.fault());
-        checks.is("count(13) behind " + marked, 1, () -> lots.count(13));
-        checks.is("count(12) behind " + marked, 0, () -> lots.count(12));
+        checks.fault(due, marked);
     }
 
     private void good(String text) {
-        WatchLots lots = new WatchLots();
-        int got = Checks.tell(lots, text);
-        checks.due(text, "0 at -1", got + " at " + lots.fault());
-        checks.is("count(13) behind " + text, 0, () -> lots.count(13));
+        checks.good(text);
     }
 
     private void tokens() {
@@ -95,20 +85,8 @@ final class FaultTest {
         fault(1, "person 5 0 1 2 3 0 1#");
         fault(2, "person 1 0;".repeat(7) + "#person 1 0;");
         fault(2, "bishop 1 0;".repeat(7) + "#bishop");
-        fault(2, fourteenPaths() + "#path 0 0;");
-        fault(2, fourteenPaths() + "#path;");
-    }
-
-    private static String fourteenPaths() {
-        StringBuilder b = new StringBuilder("streets 8;");
-        int many = 0;
-        for (int i = 0; i < 8; i++) {
-            for (int j = i + 1; j < 8 && many < 14; j++) {
-                b.append("path ").append(j).append(' ').append(i).append(';');
-                many++;
-            }
-        }
-        return b.toString();
+        fault(2, Texts.paths(14) + "#path 0 0;");
+        fault(2, Texts.paths(14) + "#path;");
     }
 
     private void notThere() {
@@ -206,7 +184,7 @@ final class FaultTest {
         good("worth not not not not not not (not not not not not not 1);");
         good("worth (1 < 2) < 3 and (1 = 2) = 3 or 4;");
         good("worth 1*2/3+4-5<6*7 and not own or coins and theirs=knows or hours+street+lots+night;");
-        good(fourteenPaths());
+        good(Texts.paths(14));
         good("person 999 0 1 2 3 0 1;".repeat(3) + "bishop 0 0;".repeat(4));
     }
 }

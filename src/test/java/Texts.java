@@ -16,6 +16,19 @@ final class Texts {
         this.random = random;
     }
 
+    /** A TEXT of so many PATHS (at most 14) between 8 STREETS. */
+    static String paths(int many) {
+        StringBuilder b = new StringBuilder("streets 8;");
+        int left = many;
+        for (int i = 0; i < 8; i++) {
+            for (int j = i + 1; j < 8 && left > 0; j++) {
+                b.append("path ").append(j).append(' ').append(i).append(';');
+                left--;
+            }
+        }
+        return b.toString();
+    }
+
     private int upTo(int most) {
         return random.nextInt(most + 1);
     }
