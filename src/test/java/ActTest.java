@@ -195,11 +195,7 @@ final class ActTest {
             case 0 -> x.nights(1);
             case 1 -> x.wander(0, 0, 1 + turn % 2);
             case 2 -> x.earn(0, 1);
-            case 3 -> x.reserve(turn);
-            default -> {
-                x.nights(1);
-                x.bribe(0);
-            }
+            default -> x.reserve(turn);
         }
     }
 
@@ -265,7 +261,7 @@ final class ActTest {
         is("a NIGHT of nobody", 1, () -> nobody.count(10));
     }
 
-    /** All that a NIGHT has changed: COINS, KNOWS, DARK, who is BRIBING, the NIGHT; RESERVE and WALKS are as they were. */
+    /** All that a NIGHT has changed: COINS, KNOWS, DARK, who is BRIBING, the NIGHT; the rest is as it was. */
     private void undoneNights() {
         for (int many : new int[] {1, 2, 20}) {
             WatchLots x = Checks.of("person 0 0; person 90 0; person 50 1 2; person 50 0; reserve 30; worth 70;");

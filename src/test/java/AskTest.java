@@ -1,6 +1,6 @@
 import java.util.function.IntSupplier;
 
-/** What is asked of NIGHTS to come, STREETS and PEOPLE, sentence by sentence: like ones, none, the first and the last. */
+/** What is asked of NIGHTS to come, STREETS and PEOPLE, sentence by sentence: like ones, none, first and last. */
 final class AskTest {
     // SEEN first in NIGHT 40, which is the 41st from NIGHT 0: 6 by 40 MOD 7 is 2, 40 MOD 8 is 0
     private static final String FAR = "round 0 0 1 0 0 0 0; fog 6 9 9 9 9 9 9 9; person 9 1 2 2 2 2 2;";
@@ -389,6 +389,11 @@ final class AskTest {
         WatchLots last = Checks.of("streets 2; round 0 0 0 0 0 1; person 9 1 1 1 1 1 1; person 9 1;");
         is("HOUR 5 alone", 1, () -> last.toHide(0));
         is("0 and 1", -1, () -> last.toHide(1));
+        WatchLots poor = Checks.of("round 0 0 0 0 0 1; person 0 2 2 2 2 2 1; person 0 0 0 0 0 0 1; person 1 2 0 2;");
+        is("the last place, whatever COINS one has", 1, () -> poor.toHide(0));
+        is("all places", 6, () -> poor.toHide(1));
+        is("the place of HOURS 1 and 4", 1, () -> poor.toHide(2));
+        is("SAFE but for the last", 31, () -> poor.safe(0));
     }
 
     /** TO WIN: the least COINS (0 to 999, in place of one's own); none; no LOT. */

@@ -165,7 +165,8 @@ final class RefusedTest {
     /** A WARD without FAULT: all anew; STATUS stays; ACTS, what is TOLD, the image are gone. */
     private void textsTaken() {
         String[] texts = {"", "person 9 0; person 9 1 2;", "streets 5; path 0 1; path 1 4; round 0 1 2 3 4;"
-                + "person 300 0 1; person 4 1 2 3; bishop 60 2; fog 0 3 7; reserve 8;", "round 1 0; bishop 9 0 0 0 0 0 1;"};
+                + "person 300 0 1; person 4 1 2 3; bishop 60 2; fog 0 3 7; reserve 8;",
+            "round 1 0; bishop 9 0 0 0 0 0 1;"};
         for (String text : texts) {
             WatchLots x = full();
             x.ward(0);

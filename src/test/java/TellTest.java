@@ -325,6 +325,11 @@ final class TellTest {
         game("person 4 0; person 5 0;" + buyer, 1, 1);
         game("person 5 0; person 5 0;" + buyer, 1, 11);
         game("person 0 0; person 999 0;" + buyer, 1, 1);
+        // who isn't SEEN loses by a bribe, whatever the other one has
+        game("person 5 1; person 4 0;" + buyer, 1, 0);
+        game("person 4 0; person 5 1;" + buyer, 1, 0);
+        game("person 5 1; person 5 0;" + buyer, 1, 1);
+        game("person 5 0; person 5 1;" + buyer, 1, 10);
     }
 
     /** Who is BRIBING already has 0 alone. */
@@ -396,7 +401,8 @@ final class TellTest {
 
     /** All that NIGHTS and ACTS change, ACTS that are kept, what is TOLD, STATUS. */
     private void imageKeeps() {
-        WatchLots x = Checks.of("streets 8;" + "person 40 0 1 2 3 4 5;".repeat(6) + "person 40 0 1 2 3 4 6; reserve 9;");
+        WatchLots x = Checks.of("streets 8; reserve 9;" + "person 40 0 1 2 3 4 5;".repeat(6)
+                + "person 40 0 1 2 3 4 6;");
         x.nights(2);
         x.bribe(6);
         x.wander(6, 5, 7);

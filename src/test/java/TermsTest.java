@@ -304,7 +304,8 @@ final class TermsTest {
         checks.good("\n".repeat(700));
         checks.good("path 0 1;" + " ".repeat(691));
         WatchLots many = Checks.of("worth 1" + "+1".repeat(346) + ";");
-        checks.due("699 bytes of 1+1", 0, Checks.tell(many, "person 999 0; reserve 0; worth 1" + "+1".repeat(333) + ";"));
+        String ones = "person 999 0; reserve 0; worth 1" + "+1".repeat(333) + ";";
+        checks.due("699 bytes of 1+1", 0, Checks.tell(many, ones));
         is("of 334", 334, () -> many.given(-1));
         checks.fault(1, "worth 1" + "*1".repeat(346) + "+#");
         checks.good("worth " + "own or ".repeat(98) + "own;");
@@ -348,7 +349,8 @@ final class TermsTest {
             boolean isBlank = i == 32 || i == 10;
             boolean isDigit = i >= '0' && i <= '9';
             between(String.valueOf(b), isBlank ? 0 : 1, isBlank ? -1 : 0);
-            between("streets 4" + b + ";", isBlank ? 0 : isDigit ? 2 : 1, isBlank ? -1 : isDigit ? 8 : i == ';' ? 10 : 9);
+            between("streets 4" + b + ";", isBlank ? 0 : isDigit ? 2 : 1,
+                    isBlank ? -1 : isDigit ? 8 : i == ';' ? 10 : 9);
             between("fog 1;" + b, isBlank ? 0 : 1, isBlank ? -1 : 6);
             boolean joins = "+-*/<=".indexOf(b) >= 0;
             boolean ends = i == ';';

@@ -203,8 +203,8 @@ final class TokenTest {
         for (String start : new String[] {"worth " + SIX_NOTS, "worth 1 or " + SIX_NOTS, "worth (1 and " + SIX_NOTS}) {
             behind(start, part(2));
         }
-        for (String start : new String[] {"worth 1", "worth own", "worth 9999", "worth (1)", "worth not 1", "worth 1 + 2",
-            "worth 1 * night", "worth 1 < 2 or 3", "worth 1 = 2 and not 3", "worth (1 < 2)"}) {
+        for (String start : new String[] {"worth 1", "worth own", "worth 9999", "worth (1)", "worth not 1",
+            "worth 1 + 2", "worth 1 * night", "worth 1 < 2 or 3", "worth 1 = 2 and not 3", "worth (1 < 2)"}) {
             behind(start, begun);
         }
         for (String start : new String[] {"worth 1 < 2", "worth 1 = 2", "worth 1 < 2 + 3", "worth 1 or 2 = 3 * 4"}) {

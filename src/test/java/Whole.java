@@ -68,8 +68,11 @@ final class Whole {
     }
 
     private static void told(WatchLots x, StringBuilder b) {
-        b.append("\ntold ").append(x.otherwise(0)).append(' ').append(x.otherwise(1)).append(' ').append(x.otherwise(2));
-        b.append(" look ").append(x.look(0)).append(' ').append(x.look(1));
+        b.append("\ntold ");
+        for (int what = 0; what < 3; what++) {
+            b.append(x.otherwise(what)).append(' ');
+        }
+        b.append("look ").append(x.look(0)).append(' ').append(x.look(1));
     }
 
     private static void brief(WatchLots x, StringBuilder b) {
@@ -77,7 +80,8 @@ final class Whole {
             b.append(' ').append(x.count(what));
         }
         for (int who = 0; who < x.count(2); who++) {
-            b.append(' ').append(x.person(who, 0)).append(' ').append(x.person(who, 2)).append(' ').append(x.walk(who, 0));
+            b.append(' ').append(x.person(who, 0)).append(' ').append(x.person(who, 2));
+            b.append(' ').append(x.walk(who, 0));
         }
     }
 }

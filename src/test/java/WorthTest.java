@@ -184,8 +184,9 @@ final class WorthTest {
         bid(open.repeat(5) + "0 or 1 and 4 < 2 + 3 * 1" + within, 1);
         bid(open.repeat(5) + "0 or 1 and 4 < 2 + 3 * 0" + within, 0);
         bid("(((((8)))))", 8);
-        bid("4 + 5 * (0 or 1 and 1 = 2 - 1 * (0 or 1 and 5 < 2 + 4 * (0 or 1 and 6 = 5 + (0 or 1 and 1 = 0 + (3)))))", 4);
-        bid("4 + 5 * (0 or 1 and 1 = 2 - 1 * (0 or 1 and 5 < 2 + 4 * (0 or 1 and 6 = 5 + (0 or 1 and 3 = 0 + (3)))))", 9);
+        String mixed = "4 + 5 * (0 or 1 and 1 = 2 - 1 * (0 or 1 and 5 < 2 + 4 * (0 or 1 and 6 = 5 + ";
+        bid(mixed + "(0 or 1 and 1 = 0 + (3)))))", 4);
+        bid(mixed + "(0 or 1 and 3 = 0 + (3)))))", 9);
         bid("9 - (8 - (7 - (6 - (5 - (4)))))", 3);
         bid("9 - (8 - (7 - (6 - (5 - 4))))", 3);
         bid("0 or 0 and 1 < 2 + 3 * (1) + 7", 0);
