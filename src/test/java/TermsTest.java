@@ -435,6 +435,9 @@ final class TermsTest {
             is("no bishop", 0, () -> x.person(0, 3) + x.person(1, 3));
             is("no WORTH: twice 20 and 5 by 3", 70, () -> x.given(-1));
             is("places", 1, () -> x.person(1, 1));
+            checks.noSuch("place 1", () -> x.walk(1, 1));
+            noSuchPerson(x, 2);
+            noSuchPerson(x, 6);
         }
     }
 
@@ -449,6 +452,8 @@ final class TermsTest {
             is("paths as new", 0, () -> x.paths(s));
             is("lantern as new", s == 0 ? 63 : 0, () -> x.lantern(s));
         }
+        noSuchPerson(x, 0);
+        noSuchPerson(x, 6);
         for (int night = 0; night < 10; night++) {
             is("FOG as new", 0, () -> x.count(5));
             x.nights(1);
