@@ -1039,7 +1039,10 @@ public final class WatchLots {
             if (isWord("reserve")) {
                 return reserveLine();
             }
-            return isWord("worth") ? worthLine() : refuse(BAD_TOKEN);
+            if (isWord("worth")) {
+                return once(WORTH_LINE) && expr(1) && sign(';');
+            }
+            return refuse(BAD_TOKEN);
         }
 
         private boolean streetsLine() {
@@ -1126,10 +1129,6 @@ public final class WatchLots {
             draft.reserve = value;
             advance();
             return sign(';');
-        }
-
-        private boolean worthLine() {
-            return once(WORTH_LINE) && expr(1) && sign(';');
         }
 
         private boolean expr(int depth) {
